@@ -1,4 +1,5 @@
 import java.util.function.Consumer;
+import java.util.function.IntFunction;
 import java.util.function.ToLongFunction;
 
 /** What the tests of the document's sentences share: each sentence is told, then the calls that hold it to its word. */
@@ -64,6 +65,27 @@ final class Check {
         for (int child = 0; child < want.length; child++) {
             due(told + ", then child(" + child + ", " + what + ")", x.child(child, what), want[child]);
         }
+    }
+
+    /** Refused with each of these numbers, and with each that names nothing anywhere. */
+    static void refusedEach(String text, Consumer<CountOut> ready, String told, int[] numbers,
+            IntFunction<ToLongFunction<CountOut>> call, long want) {
+        for (int number : numbers) {
+            refused(text, ready, told + " with " + number, call.apply(number), want);
+        }
+        for (int number : WILD) {
+            refused(text, ready, told + " with " + number, call.apply(number), want);
+        }
+    }
+
+    static void refusedWithoutRing(String told, ToLongFunction<CountOut> call, long want) {
+        refused("", NOTHING, told + " without a ring", call, want);
+        refused("", x -> write(x, "01;cc"), told + " without a ring", call, want);
+    }
+
+    /** A call that tells what would be: like one that is refused it changes nothing. */
+    static void told(String text, Consumer<CountOut> ready, String told, ToLongFunction<CountOut> call, long want) {
+        refused(text, ready, told + " of " + text, call, want);
     }
 
     /** A call on an object of that RING (none: an empty text), and so made ready, that must answer so and change nothing. */

@@ -50,39 +50,25 @@ public final class DoingSentencesTest {
 
     /** No CHILD of that number: with two, with eight, and with no RING there is none at all. */
     private static void noSuchChild(String told, IntFunction<ToLongFunction<CountOut>> call) {
-        int[][] taken = {{2, 2, 3, 8}, {8, 8, 9, 16}, {5, 5, 6, 32}};
+        int[][] above = {{2, 3, 8}, {8, 9, 16}, {5, 6, 32}};
         String[] rings = {"03;ck", "03;ctbskctb", FIVE};
         for (int i = 0; i < rings.length; i++) {
-            for (int number : taken[i]) {
-                Check.refused(rings[i], BUSY, told + " of " + number, call.apply(number), Check.UNKNOWN);
-            }
-            for (int number : Check.WILD) {
-                Check.refused(rings[i], BUSY, told + " of " + number, call.apply(number), Check.UNKNOWN);
-            }
+            Check.refusedEach(rings[i], BUSY, told, above[i], call, Check.UNKNOWN);
         }
-        Check.refused("", x -> Check.write(x, "01;c"), told + " of 0 without a ring", call.apply(0), Check.UNKNOWN);
+        Check.refusedWithoutRing(told + " with 0", call.apply(0), Check.UNKNOWN);
     }
 
     private static void noSuchVerse(String told, IntFunction<ToLongFunction<CountOut>> call) {
         String[] rings = {"03;ck", "03,04;ck", "03,04,05;ctbskctb"};
         for (int verses = 1; verses <= 3; verses++) {
-            Check.refused(rings[verses - 1], BUSY, told + " of " + verses, call.apply(verses), Check.UNKNOWN);
-            for (int number : Check.WILD) {
-                Check.refused(rings[verses - 1], BUSY, told + " of " + number, call.apply(number), Check.UNKNOWN);
-            }
+            Check.refusedEach(rings[verses - 1], BUSY, told, new int[] {verses, verses + 1}, call, Check.UNKNOWN);
         }
-        Check.refused(rings[2], BUSY, told + " of 4", call.apply(4), Check.UNKNOWN);
-        Check.refused("", x -> Check.write(x, "01;c"), told + " of 0 without a ring", call.apply(0), Check.UNKNOWN);
+        Check.refusedWithoutRing(told + " with 0", call.apply(0), Check.UNKNOWN);
     }
 
     /** What is not as told: above, below and far away. */
     private static void outside(String told, int[] numbers, IntFunction<ToLongFunction<CountOut>> call) {
-        for (int number : numbers) {
-            Check.refused(FIVE, BUSY, told + " " + number, call.apply(number), Check.OUTSIDE);
-        }
-        for (int number : Check.WILD) {
-            Check.refused(FIVE, BUSY, told + " " + number, call.apply(number), Check.OUTSIDE);
-        }
+        Check.refusedEach(FIVE, BUSY, told, numbers, call, Check.OUTSIDE);
     }
 
     private static void childUnknown() {
@@ -309,8 +295,7 @@ public final class DoingSentencesTest {
         CountOut one = Check.made("01;cc", y -> y.say(0));
         Check.due("turn() with one IN", one.turn(), 1);
         Check.due("count(5)", one.count(5), 0);
-        Check.refused("", Check.NOTHING, "turn()", CountOut::turn, Check.STATE);
-        Check.refused("", y -> Check.write(y, "01;cc"), "turn() of a page", CountOut::turn, Check.STATE);
+        Check.refusedWithoutRing("turn()", CountOut::turn, Check.STATE);
     }
 
     private static void beatsTells() {

@@ -55,12 +55,12 @@ public final class RingSentencesTest {
         Check.due("blank()", x.blank(), 20);
         Check.due("letter(99) behind none", x.letter(99), 1);
         String nineteen = "01;ctbskctxxxxxxxxx";
-        Check.due("letter(99) behind 19", new20(nineteen).letter(99), 20);
+        Check.due("letter(99) behind 19", written(nineteen).letter(99), 20);
         Check.refused("", y -> Check.write(y, nineteen + "x"), "letter(99) behind 20", y -> y.letter(99), Check.FULL);
         Check.refused("02;ck", y -> Check.write(y, nineteen + "x"), "letter(32) behind 20", y -> y.letter(32), Check.FULL);
     }
 
-    private static CountOut new20(String text) {
+    private static CountOut written(String text) {
         CountOut x = new CountOut();
         Check.write(x, text);
         return x;
@@ -165,18 +165,18 @@ public final class RingSentencesTest {
 
     private static void faultPlace() {
         Check.sentence("fault: the place of the first letter that no RING has there, behind those ahead of it");
-        Check.due("fault() of x01;cc", new20("x01;cc").fault(), 0);
-        Check.due("fault() of 00;zz", new20("00;zz").fault(), 1);
-        Check.due("fault() of 01;cz,z", new20("01;cz,z").fault(), 4);
-        Check.due("fault() of 20 letters", new20("01,02,03;ccccccccccc").fault(), 17);
-        Check.due("fault() of 20 digits", new20("01234567890123456789").fault(), 2);
+        Check.due("fault() of x01;cc", written("x01;cc").fault(), 0);
+        Check.due("fault() of 00;zz", written("00;zz").fault(), 1);
+        Check.due("fault() of 01;cz,z", written("01;cz,z").fault(), 4);
+        Check.due("fault() of 20 letters", written("01,02,03;ccccccccccc").fault(), 17);
+        Check.due("fault() of 20 digits", written("01234567890123456789").fault(), 2);
     }
 
     private static void faultNone() {
         Check.sentence("fault: how many letters it has, if there is none");
         String longest = "99,10,01;ctbskctb";
         for (int size = 0; size <= longest.length(); size++) {
-            Check.due("fault() of " + longest.substring(0, size), new20(longest.substring(0, size)).fault(), size);
+            Check.due("fault() of " + longest.substring(0, size), written(longest.substring(0, size)).fault(), size);
         }
         CountOut x = Check.made("01;cc", y -> Check.write(y, "07;k"));
         Check.due("fault() beside a ring", x.fault(), 4);
@@ -214,7 +214,7 @@ public final class RingSentencesTest {
     private static void ringTaken() {
         Check.sentence("ring: how many CHILDREN");
         for (int children = 2; children <= 8; children++) {
-            Check.due("ring()", new20("01;tttttttt".substring(0, 3 + children)).ring(), children);
+            Check.due("ring()", written("01;tttttttt".substring(0, 3 + children)).ring(), children);
         }
     }
 
@@ -249,9 +249,26 @@ public final class RingSentencesTest {
         Check.due("lengths()", x.lengths(), (1 << 24) - 1);
         Check.due("restore()", x.restore(), Check.STATE);
         Check.due("say(0)", x.say(0), alone.say(0));
+        smallerRing();
         Check.write(x, "05;sb");
         Check.due("the same ring() again", x.ring(), 2);
         Check.counts("the same ring again", x, 2, 2, 1, 0, 0, 1, 0, 1, 0, 0, 3);
+    }
+
+    /** Of eight, all of whom SLIPPED, or take two BEATS, nothing is left in a RING of two. */
+    private static void smallerRing() {
+        CountOut x = Check.made("01,02,03;ssssssss");
+        x.say(0);
+        Check.due("count(3)", x.count(3), 8);
+        Check.write(x, "05;cc");
+        Check.due("ring() of two", x.ring(), 2);
+        Check.counts("a smaller ring", x, 2, 2, 1, 0, 0, 1, 0, 2, 0, 0, 2);
+        x = Check.made("01;tttttttt");
+        x.first(7);
+        x.say(0);
+        Check.write(x, "05;cc");
+        Check.due("ring() of two", x.ring(), 2);
+        Check.counts("a smaller ring", x, 2, 2, 1, 0, 0, 1, 0, 2, 0, 0, 2);
     }
 
     private static void firstSettings() {

@@ -43,7 +43,6 @@ public final class SeenSentencesTest {
     }
 
     private static final Consumer<CountOut> BUSY = SeenSentencesTest::busy;
-    private static final Consumer<CountOut> WRITTEN = x -> Check.write(x, "01;cc");
     private static final Consumer<CountOut> SIX_SEEN = x -> {
         for (int i = 0; i < 6; i++) {
             x.see(i % 2, 1);
@@ -51,26 +50,11 @@ public final class SeenSentencesTest {
     };
 
     private static void refused(String told, int[] numbers, IntFunction<ToLongFunction<CountOut>> call, int want) {
-        for (int number : numbers) {
-            Check.refused(FIVE, BUSY, told + " with " + number, call.apply(number), want);
-        }
-        for (int number : Check.WILD) {
-            Check.refused(FIVE, BUSY, told + " with " + number, call.apply(number), want);
-        }
-    }
-
-    private static void refusedWithoutRing(String told, ToLongFunction<CountOut> call, int want) {
-        Check.refused("", Check.NOTHING, told + " without a ring", call, want);
-        Check.refused("", WRITTEN, told + " without a ring", call, want);
-    }
-
-    /** A call that tells, and changes nothing by that. */
-    private static void told(String text, Consumer<CountOut> ready, String told, ToLongFunction<CountOut> call, int want) {
-        Check.refused(text, ready, told + " of " + text, call, want);
+        Check.refusedEach(FIVE, BUSY, told, numbers, call, want);
     }
 
     private static void lengthsOf(String text, Consumer<CountOut> ready, int want) {
-        told(text, ready, "lengths()", CountOut::lengths, want);
+        Check.told(text, ready, "lengths()", CountOut::lengths, want);
     }
 
     /** The bits of lengths from one on, in steps. */
@@ -121,7 +105,7 @@ public final class SeenSentencesTest {
         Check.refused("01;cc", BUSY, "see(0, 2) of two", x -> x.see(0, 2), Check.UNKNOWN);
         Check.refused("01;cccccccc", BUSY, "see(8, 0) of eight", x -> x.see(8, 0), Check.UNKNOWN);
         Check.refused("01;cccccccc", BUSY, "see(0, 8) of eight", x -> x.see(0, 8), Check.UNKNOWN);
-        refusedWithoutRing("see(0, 0)", x -> x.see(0, 0), Check.UNKNOWN);
+        Check.refusedWithoutRing("see(0, 0)", x -> x.see(0, 0), Check.UNKNOWN);
     }
 
     private static void seeOrder() {
@@ -216,11 +200,11 @@ public final class SeenSentencesTest {
 
     private static void lengthsRefused() {
         Check.sentence("lengths: STATE: no RING");
-        refusedWithoutRing("lengths()", CountOut::lengths, Check.STATE);
+        Check.refusedWithoutRing("lengths()", CountOut::lengths, Check.STATE);
     }
 
     private static void fromOf(String text, Consumer<CountOut> ready, int want) {
-        told(text, ready, "from()", CountOut::from, want);
+        Check.told(text, ready, "from()", CountOut::from, want);
     }
 
     private static void fromAtWorstFewest() {
@@ -228,6 +212,8 @@ public final class SeenSentencesTest {
         // 24 are four rounds of five and four more: from 3 the TWIN's second BEAT is not among these, from the others it is.
         fromOf("01;cctc", Check.NOTHING, 3);
         fromOf("01;ctcc", Check.NOTHING, 2);
+        // 24 are eight rounds of three, so it is alike; without the last of these it would be 1.
+        fromOf("01;tc", Check.NOTHING, 0);
         // From 0, who slips and turns it about, 1 and 3 put 2 OUT; from 1 these are told apart.
         fromOf("01;kcc", x -> x.see(0, 2), 1);
         // 6, 7, 21 and 22 are left: from 0 all put 3 OUT, from 1 it is 3 and 4.
@@ -260,7 +246,7 @@ public final class SeenSentencesTest {
 
     private static void fromRefused() {
         Check.sentence("from: STATE: no RING");
-        refusedWithoutRing("from()", CountOut::from, Check.STATE);
+        Check.refusedWithoutRing("from()", CountOut::from, Check.STATE);
     }
 
     private static long nextSeed(long seed) {
@@ -282,18 +268,18 @@ public final class SeenSentencesTest {
 
     private static void roundsSeed() {
         Check.sentence("DRAWS: the next SEED each time: 1103515245 times it and 12345, its rest by 2 to the 31");
-        told("01;cc", Check.NOTHING, "rounds(1, 0, 2)", x -> x.rounds(1, 0, 2), 12345);
-        told("01;cc", Check.NOTHING, "rounds(1, 1, 2)", x -> x.rounds(1, 1, 2), 1103527590);
+        Check.told("01;cc", Check.NOTHING, "rounds(1, 0, 2)", x -> x.rounds(1, 0, 2), 12345);
+        Check.told("01;cc", Check.NOTHING, "rounds(1, 1, 2)", x -> x.rounds(1, 1, 2), 1103527590);
         // 2207030490 and 12345 are above 2 to the 31 by 59559187.
-        told("01;cc", Check.NOTHING, "rounds(1, 2, 2)", x -> x.rounds(1, 2, 2), 59559187);
-        told("01;cc", Check.NOTHING, "rounds(1, 2147483647, 2)", x -> x.rounds(1, 2147483647, 2), 1043980748);
-        told("01;ccc", Check.NOTHING, "rounds(2, 0, 2)", x -> x.rounds(2, 0, 2), 1406932606);
+        Check.told("01;cc", Check.NOTHING, "rounds(1, 2, 2)", x -> x.rounds(1, 2, 2), 59559187);
+        Check.told("01;cc", Check.NOTHING, "rounds(1, 2147483647, 2)", x -> x.rounds(1, 2147483647, 2), 1043980748);
+        Check.told("01;ccc", Check.NOTHING, "rounds(2, 0, 2)", x -> x.rounds(2, 0, 2), 1406932606);
         // Five of eight rounds draw: in between all come back, and nothing is drawn for that.
         long seed = 77;
         for (int i = 0; i < 5; i++) {
             seed = nextSeed(seed);
         }
-        told("01;ccc", Check.NOTHING, "rounds(7, 77, 2)", x -> x.rounds(7, 77, 2), (int) seed);
+        Check.told("01;ccc", Check.NOTHING, "rounds(7, 77, 2)", x -> x.rounds(7, 77, 2), (int) seed);
     }
 
     private static void roundsSoManyTimes() {
@@ -305,26 +291,26 @@ public final class SeenSentencesTest {
             Check.due("rounds(" + times + ", 5, 0)", x.rounds(times, 5, 0), times / 2);
             Check.due("rounds(" + times + ", 5, 1)", x.rounds(times, 5, 1), firsts[(times - 1) % 4]);
         }
-        told("01;cccccccc", Check.NOTHING, "rounds(7, 5, 0)", y -> y.rounds(7, 5, 0), 0);
-        told("01;cccccccc", Check.NOTHING, "rounds(8, 5, 0)", y -> y.rounds(8, 5, 0), 1);
-        told("01;cccccccc", Check.NOTHING, "rounds(60, 5, 0)", y -> y.rounds(60, 5, 0), 7);
+        Check.told("01;cccccccc", Check.NOTHING, "rounds(7, 5, 0)", y -> y.rounds(7, 5, 0), 0);
+        Check.told("01;cccccccc", Check.NOTHING, "rounds(8, 5, 0)", y -> y.rounds(8, 5, 0), 1);
+        Check.told("01;cccccccc", Check.NOTHING, "rounds(60, 5, 0)", y -> y.rounds(60, 5, 0), 7);
     }
 
     private static void roundsComeBack() {
         Check.sentence("ROUNDS: else all come back IN, nobody has SLIPPED (first, and how it goes, stay)");
-        told("01;bb", x -> x.first(1), "rounds(60, 7, 0)", x -> x.rounds(60, 7, 0), 60);
-        told("01;bb", x -> x.first(1), "rounds(60, 7, 1)", x -> x.rounds(60, 7, 1), 1);
-        told("01;bb", x -> x.first(1), "rounds(60, 7, 2)", x -> x.rounds(60, 7, 2), 7);
-        told("01;cc", x -> x.say(0), "rounds(1, 9, 0) with one IN", x -> x.rounds(1, 9, 0), 1);
-        told("01;cc", x -> x.say(0), "rounds(1, 9, 2) with one IN", x -> x.rounds(1, 9, 2), 9);
-        told("01;bbc", Check.NOTHING, "rounds(2, 9, 0) with babies IN", x -> x.rounds(2, 9, 0), 1);
+        Check.told("01;bb", x -> x.first(1), "rounds(60, 7, 0)", x -> x.rounds(60, 7, 0), 60);
+        Check.told("01;bb", x -> x.first(1), "rounds(60, 7, 1)", x -> x.rounds(60, 7, 1), 1);
+        Check.told("01;bb", x -> x.first(1), "rounds(60, 7, 2)", x -> x.rounds(60, 7, 2), 7);
+        Check.told("01;cc", x -> x.say(0), "rounds(1, 9, 0) with one IN", x -> x.rounds(1, 9, 0), 1);
+        Check.told("01;cc", x -> x.say(0), "rounds(1, 9, 2) with one IN", x -> x.rounds(1, 9, 2), 9);
+        Check.told("01;bbc", Check.NOTHING, "rounds(2, 9, 0) with babies IN", x -> x.rounds(2, 9, 0), 1);
         // 1 is OUT, for 0 slips; all come back, and he slips again; else 0 would be OUT, and 1 first.
-        told("01;sc", Check.NOTHING, "rounds(3, 9, 1)", x -> x.rounds(3, 9, 1), 0);
-        told("01;sc", x -> x.back(x.say(0)), "rounds(1, 9, 1), 0 SLIPPED", x -> x.rounds(1, 9, 1), 1);
+        Check.told("01;sc", Check.NOTHING, "rounds(3, 9, 1)", x -> x.rounds(3, 9, 1), 0);
+        Check.told("01;sc", x -> x.back(x.say(0)), "rounds(1, 9, 1), 0 SLIPPED", x -> x.rounds(1, 9, 1), 1);
         // 0 slips and turns it back, 2 and 1 are OUT; all come back, 0 slips and turns it ONWARD, and 1 is OUT.
-        told("01;kcc", Check.NOTHING, "rounds(4, 9, 1)", x -> x.rounds(4, 9, 1), 2);
+        Check.told("01;kcc", Check.NOTHING, "rounds(4, 9, 1)", x -> x.rounds(4, 9, 1), 2);
         // Turned, 2 is OUT, then 1; 0 is first when all come back, then he is OUT; it goes on to 2, that way.
-        told("01;ccc", x -> { x.first(2); x.turn(); }, "rounds(4, 9, 1)", x -> x.rounds(4, 9, 1), 2);
+        Check.told("01;ccc", x -> { x.first(2); x.turn(); }, "rounds(4, 9, 1)", x -> x.rounds(4, 9, 1), 2);
     }
 
     private static void roundsRefused() {
@@ -334,16 +320,16 @@ public final class SeenSentencesTest {
         for (int seed : new int[] {-1, -2, -2147483647, Integer.MIN_VALUE}) {
             Check.refused(FIVE, BUSY, "rounds(1, " + seed + ", 2)", x -> x.rounds(1, seed, 2), Check.OUTSIDE);
         }
-        refusedWithoutRing("rounds(1, 0, 0)", x -> x.rounds(1, 0, 0), Check.STATE);
-        refusedWithoutRing("rounds(60, 2147483647, 2)", x -> x.rounds(60, 2147483647, 2), Check.STATE);
+        Check.refusedWithoutRing("rounds(1, 0, 0)", x -> x.rounds(1, 0, 0), Check.STATE);
+        Check.refusedWithoutRing("rounds(60, 2147483647, 2)", x -> x.rounds(60, 2147483647, 2), Check.STATE);
     }
 
     private static void roundsOrder() {
         Check.sentence("rounds: OUTSIDE is told ahead of STATE");
-        refusedWithoutRing("rounds(0, 0, 0)", x -> x.rounds(0, 0, 0), Check.OUTSIDE);
-        refusedWithoutRing("rounds(61, 0, 0)", x -> x.rounds(61, 0, 0), Check.OUTSIDE);
-        refusedWithoutRing("rounds(1, -1, 0)", x -> x.rounds(1, -1, 0), Check.OUTSIDE);
-        refusedWithoutRing("rounds(1, 0, 3)", x -> x.rounds(1, 0, 3), Check.OUTSIDE);
-        refusedWithoutRing("rounds(1, 0, -1)", x -> x.rounds(1, 0, -1), Check.OUTSIDE);
+        Check.refusedWithoutRing("rounds(0, 0, 0)", x -> x.rounds(0, 0, 0), Check.OUTSIDE);
+        Check.refusedWithoutRing("rounds(61, 0, 0)", x -> x.rounds(61, 0, 0), Check.OUTSIDE);
+        Check.refusedWithoutRing("rounds(1, -1, 0)", x -> x.rounds(1, -1, 0), Check.OUTSIDE);
+        Check.refusedWithoutRing("rounds(1, 0, 3)", x -> x.rounds(1, 0, 3), Check.OUTSIDE);
+        Check.refusedWithoutRing("rounds(1, 0, -1)", x -> x.rounds(1, 0, -1), Check.OUTSIDE);
     }
 }

@@ -1,5 +1,4 @@
 import java.util.function.Consumer;
-import java.util.function.ToLongFunction;
 
 /** The sentences of the IMAGE and of what is told of all (promises 25 to 28), with each refusal. */
 public final class TellingSentencesTest {
@@ -22,6 +21,8 @@ public final class TellingSentencesTest {
         digestOfNothing();
         digestAsTold();
         digestChangesNothing();
+        as512CallsOfCounts();
+        as512CallsOfRings();
         Check.end();
     }
 
@@ -39,8 +40,7 @@ public final class TellingSentencesTest {
 
     private static void imageRefused() {
         Check.sentence("image: STATE: no RING");
-        Check.refused("", Check.NOTHING, "image()", CountOut::image, Check.STATE);
-        Check.refused("", WRITTEN, "image()", CountOut::image, Check.STATE);
+        Check.refusedWithoutRing("image()", CountOut::image, Check.STATE);
     }
 
     private static void imageIsTheLatest() {
@@ -207,13 +207,10 @@ public final class TellingSentencesTest {
 
     private static void countOutside() {
         Check.sentence("count: OUTSIDE");
-        ToLongFunction<CountOut> eleven = x -> x.count(11);
-        Check.refused("01,02;ctbsk", x -> { x.image(); x.say(1); x.see(0, 1); }, "count(11)", eleven, Check.OUTSIDE);
-        Check.refused("", WRITTEN, "count(11)", eleven, Check.OUTSIDE);
-        for (int what : Check.WILD) {
-            Check.refused("01,02;ctbsk", x -> x.say(1), "count(" + what + ")", x -> x.count(what), Check.OUTSIDE);
-            Check.refused("", WRITTEN, "count(" + what + ")", x -> x.count(what), Check.OUTSIDE);
-        }
+        int[] above = {11, 12};
+        Check.refusedEach("01,02;ctbsk", x -> { x.image(); x.say(1); x.see(0, 1); }, "count(..)", above,
+                n -> x -> x.count(n), Check.OUTSIDE);
+        Check.refusedEach("", WRITTEN, "count(..)", above, n -> x -> x.count(n), Check.OUTSIDE);
     }
 
     private static void countPageAndRings() {
@@ -313,5 +310,29 @@ public final class TellingSentencesTest {
         CountOut x = Check.made("01,02;sktb", y -> { y.see(1, 1); y.say(0); });
         long want = x.digest();
         Check.refused("01,02;sktb", y -> { y.see(1, 1); y.say(0); }, "digest()", CountOut::digest, want);
+    }
+
+    /** As many COUNTS as there can be: six calls make the RING, then each one takes two. */
+    private static void as512CallsOfCounts() {
+        Check.sentence("an object is used for at most 512 calls: as many COUNTS as there can be");
+        CountOut x = Check.made("01;cc");
+        for (int calls = 6; calls < 510; calls += 2) {
+            int out = (calls - 6) / 2 % 2;
+            Check.due("say(0) as call " + (calls + 1), x.say(0), out);
+            Check.due("back(" + out + ") as call " + (calls + 2), x.back(out), 2);
+        }
+        Check.due("say(0) as call 511", x.say(0), 0);
+        Check.due("count(6) as call 512", x.count(6), 253);
+    }
+
+    private static void as512CallsOfRings() {
+        Check.sentence("an object is used for at most 512 calls: as many RINGS as there can be");
+        CountOut x = new CountOut();
+        for (int read = 1; read <= 85; read++) {
+            WRITTEN.accept(x);
+            Check.due("ring() as call " + 6 * read, x.ring(), 2);
+        }
+        Check.due("digest() as call 511", x.digest() == Check.made("01;cc").digest() + 84 ? 1 : 0, 1);
+        Check.due("count(10) as call 512", x.count(10), 85);
     }
 }
