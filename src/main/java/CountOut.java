@@ -318,7 +318,7 @@ public final class CountOut {
                 h = 31 * h + likely(child, 1);
             }
         }
-        for (int place = 0; place < page.size; place++) {
+        for (int place = 0; place < page.size && place < page.letters.length; place++) {
             h = 31 * h + page.letters[place];
         }
         for (int what = 0; what <= 10; what++) {
@@ -366,7 +366,7 @@ public final class CountOut {
             due = TENS;
             verses = 0;
             children = 0;
-            for (int place = 0; place < size; place++) {
+            for (int place = 0; place < size && place < letters.length; place++) {
                 if (!reads(letters[place])) {
                     return place;
                 }
@@ -460,7 +460,7 @@ public final class CountOut {
 
         void setUp(Page page) {
             circle.clear();
-            for (int child = 0; child < page.children; child++) {
+            for (int child = 0; child < page.children && child < page.kinds.length; child++) {
                 circle.addBehind(page.kinds[child]);
             }
             verses = page.verses;
@@ -786,7 +786,7 @@ public final class CountOut {
             int pose = trial.pose();
             int best = NONE;
             int bestVerse = NONE;
-            for (int verse = 0; verse < scene.verses && best < WIN; verse++) {
+            for (int verse = 0; verse < MOST_VERSES && scene.hasVerse(verse) && best < WIN; verse++) {
                 int out = trial.putOut(scene.beats[verse]);
                 int come;
                 if (out == own) {
